@@ -131,6 +131,12 @@ public final class CriesTest {
         check.due("led many", x.led(2, 30, false, Integer.MAX_VALUE, 0), NONE);
         check.due("led 3 of a short cry", x.led(2, 2, false, 3, 0), NONE);
         check.due("led 2 of a short cry", x.led(2, 2, false, 2, 0), 3);
+        // to and fro between two rocks: way 2 comes home in ticks 3, 7, .. 59, way 6 in 4, 8, .. 60
+        EchoFines pair = Check.told("plan 4 1;rock 0 0 0;rock 3 0 0;fade 0;at a 1 0");
+        check.due("the last sound, tick", pair.led(1, 1, false, 29, 1), 60);
+        check.due("the last sound, thrown back", pair.led(1, 1, false, 29, 3), 30);
+        check.due("the last sound, way", pair.led(1, 1, false, 29, 4), 6);
+        check.due("none behind", pair.led(1, 1, false, 30, 1), NONE);
         check.due("from -1", x.led(-1, 0, false, -1, 9), UNKNOWN);
         check.due("from 5", x.led(5, 30, false, 0, 0), UNKNOWN);
         check.due("loud 0", x.led(0, 0, false, 0, 0), OUTSIDE);

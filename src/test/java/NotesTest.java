@@ -90,6 +90,12 @@ public final class NotesTest {
         y.note(2, 54);
         check.due("c heard it", y.who(0, 9, false, 2), 1);
         check.due("it was a", y.who(0, 9, false, 1), 1);
+        // between two rocks b, beside a, hears each cry of a in ticks 3, 4, 7, 8, .. 59, 60
+        EchoFines pair = Check.told("plan 4 1;rock 0 0 0;rock 3 0 0;fade 0;at a 1 0;at b 1 0");
+        pair.note(1, 60);
+        check.due("ticks up to the sixtieth", pair.who(0, 9, false, 2), 30);
+        pair.note(1, 3);
+        check.due("minute 0, by ticks 3 and 60", pair.who(0, 9, false, 2), 1);
     }
 
     private static void living() {
@@ -144,6 +150,8 @@ public final class NotesTest {
         for (int what = 0; what < 3; what++) check.due("no echoes", no.cancel(0, 1, false, 0, what), NONE);
         // 40 at most
         String walls = "plan 4 1;rock 0 0 0;rock 3 0 0;at a 1 0;at b 2 0;fade 0;";
+        check.due("least a of all", Check.told(walls + "law 1 0 5").cancel(0, 1, false, 0, 0), 1);
+        check.due("least b of all", Check.told(walls + "law 1 0 5").cancel(0, 1, false, 0, 1), 1);
         check.due("loud 40", Check.told(walls + "law 40 0 5").cancel(0, 1, false, 0, 0), 40);
         check.due("loud 41", Check.told(walls + "law 41 0 5").cancel(0, 1, false, 0, 0), NONE);
         check.due("person -1", x.cancel(-1, -1, false, 24, 9), UNKNOWN);

@@ -22,7 +22,7 @@ public final class RulesTest {
     };
     private static final String[] BANNED = {
         "throw", "throws", "try", "catch", "synchronized", "assert", "->", "::", "System.currentTimeMillis", "Random",
-        "hashCode", "toString", "static {", "Exact(", "volatile", "Thread", "Object", "double", "float",
+        "hashCode", "toString", "static {", "volatile", "Thread", "Object", "double", "float",
     };
     private static final Check check = new Check();
 
@@ -87,6 +87,7 @@ public final class RulesTest {
         }
         Matcher imports = Pattern.compile("import ([\\w.]+);").matcher(code);
         while (imports.find()) check.holds(imports.group(), imports.group(1).matches("java\\.util\\.(Arrays|ArrayList|List)"));
+        check.holds("nothing Exact", !code.contains("Exact("));
         check.holds("no package", !code.contains("package "));
         check.holds("signs 1 to 127", source.chars().allMatch(c -> c >= 1 && c <= 127));
         Matcher news = Pattern.compile("\n( +)(.*\\bnew \\w.*)").matcher(code);
