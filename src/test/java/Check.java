@@ -1,20 +1,30 @@
-/** What the tests share: counting wrong answers, and telling texts. */
+/** What the tests share: counting wrong answers, telling texts, and which sentence is looked at. */
 final class Check {
     private int wrong = 0;
     private int asked = 0;
+    private String sentence = "";
+
+    /**
+     * What is asked from here on is of this promise, and of this sentence of it or of the terms it speaks in.
+     * The words must stand in the document.
+     */
+    void of(int promise, String words) {
+        sentence = "promise " + promise + ", \"" + words + "\": ";
+        if (Document.isThere()) holds("these words stand in the document", Document.says(promise, words));
+    }
 
     void due(String call, long got, long want) {
         asked++;
         if (got == want) return;
         wrong++;
-        if (wrong <= 50) System.out.println(call + " answered " + got + ", due is " + want);
+        if (wrong <= 50) System.out.println(sentence + call + " answered " + got + ", due is " + want);
     }
 
     void holds(String what, boolean so) {
         asked++;
         if (so) return;
         wrong++;
-        if (wrong <= 50) System.out.println("does not hold: " + what);
+        if (wrong <= 50) System.out.println(sentence + "does not hold: " + what);
     }
 
     boolean isClean() {
@@ -42,12 +52,17 @@ final class Check {
         return bytes;
     }
 
+    /** Writes a text and does it. */
+    static int tell(EchoFines x, String text) {
+        write(x, text);
+        return x.canyon();
+    }
+
     /** A new object to which some texts were told, one after the other. */
     static EchoFines told(String... texts) {
         EchoFines x = new EchoFines();
         for (String text : texts) {
-            write(x, text);
-            int answer = x.canyon();
+            int answer = tell(x, text);
             if (answer < 1) throw new IllegalStateException(text + ": " + answer + " at " + x.fault());
         }
         return x;
@@ -64,5 +79,14 @@ final class Check {
         due("fault of \"" + text + "\"", x.fault(), want);
         if (want != EchoFines.NONE) due("canyon of \"" + text + "\"", x.canyon(), EchoFines.NOT);
         due("bytes of \"" + text + "\"", x.erase(), text.length());
+    }
+
+    /** Texts with a ^ ahead of the token, or the end, that is the fault; without one there is no fault. */
+    void marked(String... texts) {
+        for (String text : texts) markedIn(new EchoFines(), text);
+    }
+
+    void markedIn(EchoFines x, String text) {
+        faultOf(x, text.replace("^", ""), text.indexOf('^'));
     }
 }
