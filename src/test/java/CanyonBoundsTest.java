@@ -36,6 +36,7 @@ public final class CanyonBoundsTest {
         endTooSoon();
         placeOfTheFault();
         canyon();
+        canyonAsItIs();
         faultLeavesAll();
         linesInTheirOrder();
         behindTheLines();
@@ -430,11 +431,13 @@ public final class CanyonBoundsTest {
     }
 
     private static void firstFault() {
-        check.of(4, "A FAULT is at the first TOKEN (a row of small letters, a row of digits, any other byte) that cannot stand there");
+        check.of(4, "A FAULT is at the first TOKEN (a row of small letters, a row of digits, any other byte) "
+            + "that cannot stand there");
         check.marked("plan ^0 0;rock 9 9 100", "plan 1 ^0;oops", "rock ^9 9 100", "rock 0 ^9 100", "at ^g 9 9", "at a ^9 9",
             "law ^0 61 0", "law 1 ^61 0", "law 1 60 ^0", "night ^24 24 0", "night 0 ^24 0", "night 0 0 ^0");
         check.marked("fade 1;fade 2;^faded 3;fade 10", "fade 1;fade ^10;fade 11", "^fadefade 1", "fade ^..", "^.fade 1");
-        check.marked("fade 1^..", "fade 1 ^111", "fade ^111", "fade ^1000000000", "fade ^4294967297", "fade ^18446744073709551617");
+        check.marked("fade 1^..", "fade 1 ^111", "fade ^111", "fade ^1000000000", "fade ^4294967297",
+            "fade ^18446744073709551617");
     }
 
     private static void numbersOfMoreDigits() {
@@ -446,8 +449,8 @@ public final class CanyonBoundsTest {
 
     private static void endTooSoon() {
         check.of(4, "or at the end, if it comes too soon.");
-        check.marked("^", "plan^", "plan 1^", "plan 1 ^", "rock 1 1^", "at^", "at a^", "at a 0^", "gone^", "law 1 1^", "night 1 2^",
-            "fade^", "fade  ^", "floor 1^", "free;^", "free;law^", "free; ^");
+        check.marked("^", "plan^", "plan 1^", "plan 1 ^", "rock 1 1^", "at^", "at a^", "at a 0^", "gone^", "law 1 1^",
+            "night 1 2^", "fade^", "fade  ^", "floor 1^", "free;^", "free;law^", "free; ^");
     }
 
     private static void placeOfTheFault() {
@@ -488,6 +491,45 @@ public final class CanyonBoundsTest {
         check.due("fade then", x.count(7), 5);
     }
 
+    /** Rocks fall and come back by other calls than texts: a text is read and done on what there is then. */
+    private static void canyonAsItIs() {
+        check.of(4, "X, Y of a CELL that there is behind the LINES ahead;");
+        EchoFines x = Check.told("plan 5 1;rock 4 0 30;at a 0 0;at b 2 0");
+        x.keep(0);
+        x.fall(1);
+        check.markedIn(x, "at c 1 ^0");
+        x.fall(4);
+        check.markedIn(x, "at c 4 0");
+        x.back(0);
+        check.markedIn(x, "at c 1 0");
+        check.markedIn(x, "at c 4 ^0");
+        check.due("changed", x.changed(1, 0, 9, false), 3);
+        check.markedIn(x, "at c 1 0");
+        check.of(5, "THE TEXT's LINES are done,");
+        x.fall(1);
+        x.fall(0);
+        check.due("canyon()", Check.tell(x, "fade 2"), 1);
+        check.due("the rock that fell", x.cell(1, 0), 1);
+        check.due("a is nowhere", x.person(0, 0), NONE);
+        check.due("b is there", x.person(1, 0), 2);
+        x.keep(1);
+        x.fall(4);
+        x.back(1);
+        check.due("canyon() behind back()", Check.tell(x, "fade 3"), 1);
+        check.due("soft as it was", x.cell(4, 1), 30);
+        check.due("changed", x.changed(4, 3, 9, false), 2);
+        check.due("canyon() behind changed()", Check.tell(x, "fade 4"), 1);
+        check.due("soft as it was", x.cell(4, 1), 30);
+        Check.write(x, "plan 2 2;law 1 1 1;night 1 2 3;fade 9;x");
+        check.due("a fault", x.fault(), 38);
+        x.erase();
+        check.due("canyon() behind fault()", Check.tell(x, "gone f"), 1);
+        check.due("columns", x.count(0), 5);
+        check.due("laws", x.count(4), 0);
+        check.due("hours", x.count(9), 0);
+        check.due("fade", x.count(7), 4);
+    }
+
     private static void faultLeavesAll() {
         check.of(5, "NOT: it has a FAULT.");
         EchoFines x = Check.told("plan 5 1;rock 4 0 30;at a 0 0;at b 2 0;law 1 0 5;night 2 4 3;fade 2");
@@ -507,7 +549,8 @@ public final class CanyonBoundsTest {
 
     private static void linesInTheirOrder() {
         check.of(5, "LINES are done in their order.");
-        EchoFines x = Check.told("fade 3;fade 5;night 1 2 3;night 4 5 6;rock 0 0 1;floor 0 0;floor 1 0;rock 1 0 7;at a 2 0;at a 3 0");
+        EchoFines x = Check.told("fade 3;fade 5;night 1 2 3;night 4 5 6;rock 0 0 1;floor 0 0;floor 1 0;rock 1 0 7;"
+            + "at a 2 0;at a 3 0");
         check.due("fade", x.count(7), 5);
         check.due("hours", x.count(9), 1 << 4);
         check.due("times", x.count(10), 6);

@@ -16,6 +16,7 @@ public final class CryBoundsTest {
     public static void main(String[] args) {
         loudOfACry();
         eightWays();
+        eightWaysByEveryCall();
         sixtyTicks();
         theSixtiethTick();
         whereNoCellIs();
@@ -67,7 +68,8 @@ public final class CryBoundsTest {
     }
 
     private static void eightWays() {
-        check.of(12, "goes 8 WAYS: 0 one row less, 1 that and a column more, 2 a column more, and so on, round (7 a row and a column less).");
+        check.of(12, "goes 8 WAYS: 0 one row less, 1 that and a column more, 2 a column more, and so on, round "
+            + "(7 a row and a column less).");
         for (int way = 0; way < 8; way++) {
             for (int far = 1; far <= 2; far++) {
                 int cell = 12 + far * (ON[way][0] + 5 * ON[way][1]);
@@ -77,6 +79,36 @@ public final class CryBoundsTest {
                 check.due("way " + way, x.led(12, 9, false, 0, 4), way);
                 check.due("no other way", x.led(12, 9, false, 1, 4), NONE);
             }
+        }
+    }
+
+    private static void eightWaysByEveryCall() {
+        for (int way = 0; way < 8; way++) {
+            int step = ON[way][0] + 5 * ON[way][1];
+            String to = at('b', 12 + step, 5);
+            check.of(13, "goes 8 WAYS:");
+            EchoFines x = Check.told("plan 5 5;at a 2 2" + to);
+            check.due("whisper, way " + way, x.whisper(12, 2, false), 3);
+            check.of(11, "goes 8 WAYS:");
+            int[] sounds = {1, 0, 1, 8};
+            for (int what = 0; what < 4; what++) {
+                check.due("sounds, way " + way, x.sounds(12, 9, false, 12 + step, what), sounds[what]);
+            }
+            check.of(22, "goes 8 WAYS:");
+            x.note(1, 50);
+            check.due("who, way " + way, x.who(0, 9, false, 2), 1);
+            check.of(10, "goes 8 WAYS:");
+            int rockCell = 12 + 2 * step;
+            EchoFines y = Check.told("plan 5 5;law 1 0 5;at a 2 2;at c 2 2" + rock(rockCell % 5, rockCell / 5));
+            check.due("costs, way " + way, y.costs(0, 9, false, 0), 5);
+            check.due("cry, way " + way, y.cry(0, 9, false, 0), 5);
+            check.of(19, "goes 8 WAYS:");
+            check.due("changed to floor, way " + way, y.changed(rockCell, 12, 9, false), 5);
+            y.fall(rockCell);
+            check.due("changed to rock, way " + way, y.changed(rockCell, 12, 9, false), 5);
+            // the same sound by the way across from it is one more
+            y.fall(12 - 2 * step);
+            check.due("changed to two rocks, way " + way, y.changed(rockCell, 12, 4, false), 5);
         }
     }
 
@@ -174,7 +206,8 @@ public final class CryBoundsTest {
             int dx = ON[way][0];
             int dy = ON[way][1];
             // three rocks in a row ahead of the middle: whatever is beside, back it goes
-            EchoFines x = Check.told("plan 5 5" + rock(2 + dx, 2 + dy) + rock(2 + dx - dy, 2 + dy + dx) + rock(2 + dx + dy, 2 + dy - dx));
+            EchoFines x = Check.told("plan 5 5" + rock(2 + dx, 2 + dy) + rock(2 + dx - dy, 2 + dy + dx)
+                + rock(2 + dx + dy, 2 + dy - dx));
             int back = 12 - dx - 5 * dy;
             int echoes = 0;
             for (int cell = 0; cell < 25; cell++) {
@@ -246,7 +279,8 @@ public final class CryBoundsTest {
     }
 
     private static void soundsComeByGoing() {
-        check.of(11, "SOUNDS are all that come to a CELL (by going there): TICK, LOUD, how often THROWN BACK; an ECHO if it was.");
+        check.of(11, "SOUNDS are all that come to a CELL (by going there): TICK, LOUD, how often THROWN BACK; "
+            + "an ECHO if it was.");
         EchoFines x = Check.told("plan 4 4");
         for (int cell = 0; cell < 16; cell++) check.due("where it is cried", x.sounds(cell, 99, false, cell, 0), 0);
         EchoFines y = Check.told(WALL + ";at a 2 0;at b 3 0");
@@ -264,7 +298,8 @@ public final class CryBoundsTest {
     // ---- fines
 
     private static void eachOtherPerson() {
-        check.of(10, "A CRY of a PERSON (at its window): for each other PERSON that is somewhere, each ECHO that comes to its CELL:");
+        check.of(10, "A CRY of a PERSON (at its window): for each other PERSON that is somewhere, "
+            + "each ECHO that comes to its CELL:");
         String law = ";law 1 0 5";
         check.due("nobody else", Check.told(WALL + ";at a 0 0" + law).costs(0, 20, false, 0), 0);
         check.due("one more beside it", Check.told(WALL + ";at a 0 0;at b 0 0" + law).costs(0, 20, false, 0), 5);
@@ -392,7 +427,8 @@ public final class CryBoundsTest {
     }
 
     private static void order() {
-        check.of(12, "ORDER of SOUNDS that come to PERSONS by a CRY: by TICKS, of like ones by WAYS (as they began), then by PERSONS.");
+        check.of(12, "ORDER of SOUNDS that come to PERSONS by a CRY: by TICKS, of like ones by WAYS (as they began), "
+            + "then by PERSONS.");
         EchoFines x = Check.told("plan 5 1;rock 0 0 10;rock 4 0 0;at f 2 0;at e 1 0;at c 3 0;at d 1 0");
         int[][] rows = {
             {2, 1, 29, 0, 2},
@@ -414,8 +450,8 @@ public final class CryBoundsTest {
     }
 
     private static void led() {
-        check.of(12, "The i-th SOUND (from 0) in ORDER that comes to PERSONS by a CRY at a CELL: who (what 0), TICK (1), LOUD (2), "
-            + "how often THROWN BACK (3), its WAY as it began (4); NONE: there are not so many.");
+        check.of(12, "The i-th SOUND (from 0) in ORDER that comes to PERSONS by a CRY at a CELL: who (what 0), TICK (1), "
+            + "LOUD (2), how often THROWN BACK (3), its WAY as it began (4); NONE: there are not so many.");
         EchoFines x = Check.told(WALL + ";at b 2 0");
         int[][] rows = {{1, 2, 18, 0, 2}, {1, 5, 16, 1, 2}};
         for (int what = 0; what < 5; what++) {
@@ -596,8 +632,8 @@ public final class CryBoundsTest {
 
     private static void greatestSums() {
         check.of(7, "NET and 100000000 (1)");
-        EchoFines x = Check.told("plan 4 4;rock 0 0 0;rock 1 0 0;rock 2 0 0;rock 3 0 0;rock 0 1 0;rock 3 1 0;rock 0 2 0;rock 3 2 0",
-            "rock 0 3 0;rock 1 3 0;rock 2 3 0;rock 3 3 0;fade 0;law 1 0 99;night 5 6 9",
+        EchoFines x = Check.told("plan 4 4;rock 0 0 0;rock 1 0 0;rock 2 0 0;rock 3 0 0;rock 0 1 0;rock 3 1 0;rock 0 2 0",
+            "rock 3 2 0;rock 0 3 0;rock 1 3 0;rock 2 3 0;rock 3 3 0;fade 0;law 1 0 99;night 5 6 9",
             "at a 1 1;at b 1 1;at c 1 1;at d 1 1;at e 1 1;at f 1 1");
         int echoes = x.sounds(5, 99, false, 5, 1);
         check.holds("a chamber of many echoes: " + echoes, echoes >= 60);

@@ -30,6 +30,9 @@ public final class NoteBoundsTest {
         cancelNotNothing();
         cancel();
         keep();
+        keepWhatEachOwes();
+        keepCries();
+        keepNotes();
         back();
         backOfNothing();
         count();
@@ -86,7 +89,8 @@ public final class NoteBoundsTest {
     // ---- who
 
     private static void whoOfAllPersons() {
-        check.of(22, "WHO: of all PERSONS that are somewhere and MINUTES 0 .. 99 in which one may have cried (LOUD, HIGH as told)");
+        check.of(22, "WHO: of all PERSONS that are somewhere and MINUTES 0 .. 99 in which one may have cried "
+            + "(LOUD, HIGH as told)");
         String[] more = {"", ";at d 5 0", ";at d 5 0;at e 5 0", ";at d 5 0;at e 5 0;at f 5 0"};
         for (int i = 0; i < more.length; i++) {
             EchoFines x = Check.told(OPEN + more[i]);
@@ -168,28 +172,8 @@ public final class NoteBoundsTest {
         check.due("minute 99, c", late.who(2, 9, false, 2), 30);
     }
 
-    private static void odds() {
-        check.of(22, "the odds that it was one, all such by like odds.");
-        int[][] rows = {{1, 0, 1, 1, 1}, {3, 1, 3, 2, 3}, {5, 2, 5, 3, 5}, {7, 3, 7, 4, 7}};
-        for (int[] row : rows) {
-            EchoFines x = Check.told(PAIR);
-            x.note(1, row[0]);
-            check.due("a, above, by minute " + row[0], x.who(0, 9, false, 0), row[1]);
-            check.due("a, below, by minute " + row[0], x.who(0, 9, false, 1), row[2]);
-            check.due("c, above, by minute " + row[0], x.who(2, 9, false, 0), row[3]);
-            check.due("c, below, by minute " + row[0], x.who(2, 9, false, 1), row[4]);
-        }
-        check.of(22, "WHO: the odds of a PERSON (part 0 above, 1 below), how many MINUTES fit for it (part 2).");
-        EchoFines x = Check.told(PAIR);
-        x.note(1, 10);
-        int[] parts = {2, 5, 4};
-        for (int part = 0; part < 3; part++) check.due("part " + part, x.who(0, 9, false, part), parts[part]);
-    }
-
-    private static void lowestTerms() {
-        check.of(22, "Parts are told in lowest terms: above (part 0), below (1).");
-        // minute of the note, minutes that fit for a and for c: 2 of 4, 4 of 10, 30 of 60
-        int[][] rows = {{2, 0, 1, 1, 1}, {8, 1, 2, 1, 2}, {10, 2, 5, 3, 5}, {99, 1, 2, 1, 2}};
+    /** Rows of the minute of b's note, a's odds above and below, and c's. */
+    private static void oddsByNoteOfB(int[][] rows) {
         for (int[] row : rows) {
             EchoFines x = Check.told(PAIR);
             x.note(1, row[0]);
@@ -200,6 +184,22 @@ public final class NoteBoundsTest {
             check.due("b, above", x.who(1, 9, false, 0), 0);
             check.due("b, below: nothing of anything is 0 of 1", x.who(1, 9, false, 1), 1);
         }
+    }
+
+    private static void odds() {
+        check.of(22, "the odds that it was one, all such by like odds.");
+        oddsByNoteOfB(new int[][] {{1, 0, 1, 1, 1}, {3, 1, 3, 2, 3}, {5, 2, 5, 3, 5}, {7, 3, 7, 4, 7}});
+        check.of(22, "WHO: the odds of a PERSON (part 0 above, 1 below), how many MINUTES fit for it (part 2).");
+        EchoFines x = Check.told(PAIR);
+        x.note(1, 10);
+        int[] parts = {2, 5, 4};
+        for (int part = 0; part < 3; part++) check.due("part " + part, x.who(0, 9, false, part), parts[part]);
+    }
+
+    private static void lowestTerms() {
+        check.of(22, "Parts are told in lowest terms: above (part 0), below (1).");
+        // by minutes 8, 10 and 99: 4 of 8, 4 of 10, 30 of 60
+        oddsByNoteOfB(new int[][] {{2, 0, 1, 1, 1}, {8, 1, 2, 1, 2}, {10, 2, 5, 3, 5}, {99, 1, 2, 1, 2}});
     }
 
     private static void nobodyFits() {
@@ -284,6 +284,14 @@ public final class NoteBoundsTest {
         check.due("nobody is anywhere", x.living(1), 0);
         check.due("the least floor", x.living(0), 1);
         check.due("what is owed stays", x.owed(0, 1), LIFT + 5);
+        // the canyon is as it was, but who cried is nowhere
+        EchoFines y = Check.told("plan 5 1;rock 4 0 0;at a 1 0;law 1 0 5");
+        y.cry(0, 20, false, 0);
+        check.due("a cries", y.living(1), 5);
+        y.fall(1);
+        y.fall(1);
+        check.due("no rock at 1", y.cell(1, 0), 0);
+        check.due("a cries from nowhere", y.living(1), 0);
     }
 
     private static void livingNoFloor() {
@@ -432,6 +440,86 @@ public final class NoteBoundsTest {
         check.due("the note as it was", x.who(0, 20, false, 2), 2);
     }
 
+    private static void keepWhatEachOwes() {
+        check.of(25, "what is owed,");
+        EchoFines x = Check.told("plan 3 1;rock 2 0 0;fade 0;law 1 0 99;at a 0 0;at b 0 0;at c 0 0;at d 0 0;at e 0 0;at f 0 0");
+        x.keep(0);
+        // the first cries five times, the next four times: one owes another 99 for each cry more
+        for (int person = 0; person < 5; person++) {
+            for (int i = person; i < 5; i++) check.due("cry", x.cry(person, 9, false, 0), 5 * 99);
+        }
+        for (int one = 0; one < 6; one++) {
+            for (int other = one + 1; other < 6; other++) x.pay(one, other, 6 * one + other);
+        }
+        check.due("keep(1)", x.keep(1), 15);
+        check.due("back(0)", x.back(0), 0);
+        for (int one = 0; one < 6; one++) {
+            for (int other = 0; other < 6; other++) {
+                if (one != other) check.due("nothing owed", x.owed(one, other), LIFT);
+            }
+        }
+        check.due("back(1)", x.back(1), 15);
+        for (int one = 0; one < 6; one++) {
+            for (int other = one + 1; other < 6; other++) {
+                int debt = 99 * (other - one) - 6 * one - other;
+                check.due("owed " + one + " " + other, x.owed(one, other), LIFT + debt);
+                check.due("owed " + other + " " + one, x.owed(other, one), LIFT - debt);
+            }
+        }
+    }
+
+    /** Twenty cries of one kind under 1, twenty of another under 0; what they come to and whose they are. */
+    private static void keptCries(int[] kind, int[] other, int much, int otherMuch) {
+        EchoFines x = Check.told("plan 5 1;rock 4 0 50;at a 0 0;at b 0 0;law 1 0 5;night 3 4 9");
+        x.keep(0);
+        for (int i = 0; i < 20; i++) x.cry(kind[0], kind[1], kind[2] == 1, kind[3]);
+        check.due("keep(1)", x.keep(1), 20);
+        check.due("back(0)", x.back(0), 0);
+        for (int i = 0; i < 20; i++) x.cry(other[0], other[1], other[2] == 1, other[3]);
+        check.due("keep(0)", x.keep(0), 20);
+        for (int i = 0; i < 2; i++) {
+            check.due("back(1)", x.back(1), 20);
+            check.due("living", x.living(1), much);
+            check.due("cries of the crier", x.person(kind[0], 2), 20);
+            check.due("back(0)", x.back(0), 20);
+            check.due("living by the others", x.living(1), otherMuch);
+            check.due("cries of the other crier", x.person(other[0], 2), 20);
+        }
+    }
+
+    private static void keepCries() {
+        check.of(25, "CRIES, NOTES are kept");
+        keptCries(new int[] {0, 20, 0, 0}, new int[] {1, 20, 0, 0}, 100, 100);
+        keptCries(new int[] {0, 20, 0, 0}, new int[] {0, 3, 0, 0}, 100, 0);
+        keptCries(new int[] {0, 20, 0, 0}, new int[] {0, 20, 1, 0}, 100, 0);
+        keptCries(new int[] {0, 20, 0, 0}, new int[] {0, 20, 0, 3}, 100, 900);
+        keptCries(new int[] {1, 3, 1, 3}, new int[] {0, 20, 0, 0}, 0, 100);
+    }
+
+    /** Twelve notes under 1, twelve others under 0; how many minutes fit for a by each. */
+    private static void keptNotes(int[] note, int[] other, int fit, int otherFit) {
+        EchoFines x = Check.told(OPEN);
+        x.keep(0);
+        for (int i = 0; i < 12; i++) x.note(note[0], note[1]);
+        x.keep(1);
+        x.back(0);
+        for (int i = 0; i < 12; i++) x.note(other[0], other[1]);
+        x.keep(0);
+        for (int i = 0; i < 2; i++) {
+            x.back(1);
+            check.due("minutes that fit", x.who(0, 9, false, 2), fit);
+            x.back(0);
+            check.due("minutes that fit by the others", x.who(0, 9, false, 2), otherFit);
+        }
+    }
+
+    private static void keepNotes() {
+        check.of(25, "NOTES are kept");
+        keptNotes(new int[] {1, 50}, new int[] {1, 0}, 1, 0);
+        keptNotes(new int[] {1, 50}, new int[] {0, 50}, 1, 0);
+        keptNotes(new int[] {1, 0}, new int[] {2, 3}, 0, 1);
+    }
+
     private static void back() {
         check.of(26, "It is as it was kept: how many CRIES.");
         EchoFines x = withSoftRock();
@@ -486,8 +574,8 @@ public final class NoteBoundsTest {
     // ---- counts
 
     private static void count() {
-        check.of(27, "0 columns, 1 rows, 2 CELLS of ROCK, 3 PERSONS that are somewhere, by bits, 4 LAWS, 5 CRIES, 6 NOTES, 7 FADE, "
-            + "8 bytes of THE TEXT, 9 HOURS of NIGHT, by bits, 10 how many times as much then.");
+        check.of(27, "0 columns, 1 rows, 2 CELLS of ROCK, 3 PERSONS that are somewhere, by bits, 4 LAWS, 5 CRIES, 6 NOTES, "
+            + "7 FADE, 8 bytes of THE TEXT, 9 HOURS of NIGHT, by bits, 10 how many times as much then.");
         int[] least = {1, 1, 0, 0, 0, 0, 0, 0, 0, 0, 1};
         EchoFines x = Check.told("plan 1 1;fade 0");
         for (int what = 0; what <= 10; what++) check.due("least, count(" + what + ")", x.count(what), least[what]);

@@ -9,8 +9,8 @@ public final class RefusalsTest {
     private static final int UNKNOWN = -2, OUTSIDE = -3, NOT = -4, FULL = -5;
     private static final int GOOD = 0;
     private static final int LEAST = Integer.MIN_VALUE, MOST = Integer.MAX_VALUE;
-    private static final String RULE = "Refused, and nothing changes: UNKNOWN (no such CELL, PERSON), OUTSIDE (another number is not "
-        + "as told), NOT (not now: a PERSON that is nowhere; as told), FULL: the first of these that fits.";
+    private static final String RULE = "Refused, and nothing changes: UNKNOWN (no such CELL, PERSON), OUTSIDE (another "
+        + "number is not as told), NOT (not now: a PERSON that is nowhere; as told), FULL: the first of these that fits.";
     private static final Check check = new Check();
 
     /** One way to fill some arguments of a call, and why the call is refused then. */
@@ -38,8 +38,8 @@ public final class RefusalsTest {
 
     /** 0 rock, 11 rock, a and b at 1, c at 6; d, e, f nowhere; laws, night, debts, cries, notes, two images, half a text. */
     private static EchoFines some() {
-        EchoFines x = Check.told("plan 4 3;rock 0 0 30;rock 3 2 0;at a 1 0;at b 1 0;at c 2 1;at d 3 0;law 9 3 7;law 1 0 2;night 22 3 4",
-            "fade 0");
+        EchoFines x = Check.told("plan 4 3;rock 0 0 30;rock 3 2 0;at a 1 0;at b 1 0;at c 2 1;at d 3 0;law 9 3 7;law 1 0 2",
+            "night 22 3 4;fade 0");
         x.cry(0, 50, false, 23);
         x.note(1, 40);
         x.keep(0);
@@ -96,7 +96,8 @@ public final class RefusalsTest {
         return x;
     }
 
-    private static final int SOME = 0, CRIES = 1, NOTES = 2, BYTES_193 = 3, BYTES_200 = 4, FAULT = 5, NOTHING_KEPT = 6, NOBODY = 7;
+    private static final int SOME = 0, CRIES = 1, NOTES = 2, BYTES_193 = 3, BYTES_200 = 4, FAULT = 5, NOTHING_KEPT = 6;
+    private static final int NOBODY = 7;
 
     private static EchoFines made(int state) {
         switch (state) {
@@ -161,6 +162,18 @@ public final class RefusalsTest {
         return new Given(GOOD, values);
     }
 
+    private static Given unknown(int... values) {
+        return new Given(UNKNOWN, values);
+    }
+
+    private static Given outside(int... values) {
+        return new Given(OUTSIDE, values);
+    }
+
+    private static Given not(int... values) {
+        return new Given(NOT, values);
+    }
+
     /** Choices of one argument: values that are as told, and values that are not, for one reason. */
     private static Given[] one(int[] good, int reason, int... bad) {
         Given[] all = new Given[good.length + bad.length];
@@ -191,8 +204,7 @@ public final class RefusalsTest {
 
     /** d, e and f are nowhere in the states that come of some(); d has cried and owes, e has done nothing. */
     private static Given[] personSomewhere() {
-        return of(good(0), good(2), new Given(NOT, 3), new Given(NOT, 4), new Given(UNKNOWN, -1), new Given(UNKNOWN, 6),
-            new Given(UNKNOWN, LEAST), new Given(UNKNOWN, MOST));
+        return of(good(0), good(2), not(3), not(4), unknown(-1), unknown(6), unknown(LEAST), unknown(MOST));
     }
 
     private static Given[] anyCell() {
@@ -200,14 +212,12 @@ public final class RefusalsTest {
     }
 
     private static Given[] cellOfFloor() {
-        return of(good(1), good(10), new Given(NOT, 0), new Given(NOT, 11), new Given(UNKNOWN, -1), new Given(UNKNOWN, 12),
-            new Given(UNKNOWN, LEAST), new Given(UNKNOWN, MOST));
+        return of(good(1), good(10), not(0), not(11), unknown(-1), unknown(12), unknown(LEAST), unknown(MOST));
     }
 
     private static Given[] twoPersons() {
-        return of(good(0, 1), good(5, 4), new Given(OUTSIDE, 0, 0), new Given(OUTSIDE, 5, 5), new Given(UNKNOWN, 6, 0),
-            new Given(UNKNOWN, 0, 6), new Given(UNKNOWN, -1, -1), new Given(UNKNOWN, 6, 6), new Given(UNKNOWN, 0, MOST),
-            new Given(UNKNOWN, LEAST, 0));
+        return of(good(0, 1), good(5, 4), outside(0, 0), outside(5, 5), unknown(6, 0), unknown(0, 6), unknown(-1, -1),
+            unknown(6, 6), unknown(0, MOST), unknown(LEAST, 0));
     }
 
     /** The first of two reasons, in the order UNKNOWN, OUTSIDE, NOT, FULL. */
@@ -307,23 +317,23 @@ public final class RefusalsTest {
         int debt = x.owed(2, 0) - 100000000;
         check.holds("c owes a something: " + debt, debt > 0 && debt < 9999);
         Call pay = (y, a) -> y.pay(a[0], a[1], a[2]);
-        every("pay ", SOME, GOOD, pay, of(good(2, 0), new Given(OUTSIDE, 2, 2), new Given(UNKNOWN, 2, 6), new Given(UNKNOWN, -1, 0),
-            new Given(UNKNOWN, 6, 6), new Given(NOT, 0, 2), new Given(NOT, 4, 5), new Given(NOT, 2, 5)),
-            of(good(1), good(debt), new Given(NOT, debt + 1), new Given(NOT, 9999), new Given(OUTSIDE, 0), new Given(OUTSIDE, -1),
-            new Given(OUTSIDE, 10000), new Given(OUTSIDE, LEAST), new Given(OUTSIDE, MOST)));
+        every("pay ", SOME, GOOD, pay,
+            of(good(2, 0), outside(2, 2), unknown(2, 6), unknown(-1, 0), unknown(6, 6), not(0, 2), not(4, 5), not(2, 5)),
+            of(good(1), good(debt), not(debt + 1), not(9999), outside(0), outside(-1), outside(10000), outside(LEAST),
+                outside(MOST)));
     }
 
     private static void standFallChanged() {
         check.of(17, "UNKNOWN; OUTSIDE; NOT.");
-        every("stand ", SOME, GOOD, (x, a) -> x.stand(a[0], a[1], false, a[2], a[3]), personSomewhere(), loud(), hour(), whatUpTo(1));
+        every("stand ", SOME, GOOD, (x, a) -> x.stand(a[0], a[1], false, a[2], a[3]), personSomewhere(), loud(), hour(),
+            whatUpTo(1));
         check.of(18, "UNKNOWN.");
         every("fall ", SOME, GOOD, (x, a) -> x.fall(a[0]), one(are(0, 1, 11), UNKNOWN, -1, 12, 35, LEAST, MOST));
         check.of(19, "UNKNOWN; OUTSIDE: LOUD, one CELL; NOT: it is cried at ROCK.");
         // 0 and 11 are rock: as the cell that changes they are good, as the one where it is cried not
         every("changed ", SOME, GOOD, (x, a) -> x.changed(a[0], a[1], a[2], false),
-            of(good(0, 1), good(5, 10), new Given(OUTSIDE, 1, 1), new Given(OUTSIDE, 0, 0), new Given(NOT, 1, 0), new Given(NOT, 0, 11),
-            new Given(UNKNOWN, 12, 1), new Given(UNKNOWN, 1, 12), new Given(UNKNOWN, 12, 12), new Given(UNKNOWN, -1, 0),
-            new Given(UNKNOWN, 0, -1), new Given(UNKNOWN, LEAST, MOST)), loud());
+            of(good(0, 1), good(5, 10), outside(1, 1), outside(0, 0), not(1, 0), not(0, 11), unknown(12, 1), unknown(1, 12),
+                unknown(12, 12), unknown(-1, 0), unknown(0, -1), unknown(LEAST, MOST)), loud());
     }
 
     private static void noteAndWho() {
@@ -336,7 +346,7 @@ public final class RefusalsTest {
         Call who = (x, a) -> x.who(a[0], a[1], false, a[2]);
         every("who, its minutes ", SOME, GOOD, who, personSomewhere(), loud(), one(are(2), OUTSIDE, -1, 3, LEAST, MOST));
         every("who, where nobody fits ", NOBODY, GOOD, who, personSomewhere(), loud(),
-            of(good(2), new Given(NOT, 0), new Given(NOT, 1), new Given(OUTSIDE, -1), new Given(OUTSIDE, 3)));
+            of(good(2), not(0), not(1), outside(-1), outside(3)));
     }
 
     private static void livingAndCancel() {
@@ -344,9 +354,8 @@ public final class RefusalsTest {
         every("living ", SOME, GOOD, (x, a) -> x.living(a[0]), whatUpTo(1));
         check.of(24, "UNKNOWN; OUTSIDE: one and itself, HOUR, what; NOT.");
         every("cancel ", SOME, GOOD, (x, a) -> x.cancel(a[0], a[1], false, a[2], a[3]),
-            of(good(0, 1), good(2, 0), new Given(NOT, 4, 0), new Given(NOT, 0, 4), new Given(NOT, 4, 5), new Given(OUTSIDE, 0, 0),
-            new Given(OUTSIDE, 4, 4), new Given(UNKNOWN, 6, 0), new Given(UNKNOWN, 0, 6), new Given(UNKNOWN, 4, -1),
-            new Given(UNKNOWN, 6, 6), new Given(UNKNOWN, LEAST, MOST)), hour(), whatUpTo(2));
+            of(good(0, 1), good(2, 0), not(4, 0), not(0, 4), not(4, 5), outside(0, 0), outside(4, 4), unknown(6, 0),
+                unknown(0, 6), unknown(4, -1), unknown(6, 6), unknown(LEAST, MOST)), hour(), whatUpTo(2));
     }
 
     private static void keepBackCount() {

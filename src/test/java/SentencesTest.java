@@ -17,7 +17,8 @@ public final class SentencesTest {
     private static final Pattern PART = Pattern.compile("\"([^\"]*)\"");
     /** What is no sentence: marks of a part, and what the interface says ahead of some calls. */
     private static final Pattern NO_SENTENCE = Pattern.compile(
-        "Fines for echoes: .*? images to go on from\\.|=+ \\d|Ahead of the calls .*? says: ---- [a-z, ]*\\.|what later calls answer is free\\.");
+        "Fines for echoes: .*? images to go on from\\.|=+ \\d|Ahead of the calls .*? says: ---- [a-z, ]*\\."
+            + "|what later calls answer is free\\.");
     private static final Path TESTS = Path.of(System.getProperty("echofines.tests", "src/test/java"));
     private static final Check check = new Check();
 
