@@ -55,6 +55,11 @@ public final class RulesTest {
             check.holds(f + " is a constant", f.getModifiers() == (Modifier.PUBLIC | Modifier.STATIC | Modifier.FINAL));
         }
         check.due("constants", fields, 5);
+        check.due("NONE", EchoFines.NONE, -1);
+        check.due("UNKNOWN", EchoFines.UNKNOWN, -2);
+        check.due("OUTSIDE", EchoFines.OUTSIDE, -3);
+        check.due("NOT", EchoFines.NOT, -4);
+        check.due("FULL", EchoFines.FULL, -5);
         Constructor<?>[] constructors = EchoFines.class.getDeclaredConstructors();
         check.due("constructors", constructors.length, 1);
         check.holds("the constructor is public", constructors[0].getModifiers() == Modifier.PUBLIC);
