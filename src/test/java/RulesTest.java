@@ -24,10 +24,14 @@ public final class RulesTest {
         "throw", "throws", "try", "catch", "synchronized", "assert", "->", "::", "System.currentTimeMillis", "Random",
         "hashCode", "toString", "static {", "volatile", "Thread", "Object", "double", "float",
     };
+    private static final List<String> LIBRARY = List.of("Math.max", "Math.min", "Math.abs", "Math.floorDiv", "Math.floorMod",
+        "Integer.bitCount", "Integer.compare", "Long.bitCount", "Long.compare", "System.arraycopy", "Arrays.fill", "Arrays.copyOf",
+        "Arrays.copyOfRange");
     private static final Check check = new Check();
 
     public static void main(String[] args) throws Exception {
         face();
+        classesInside();
         source();
         anyNumbers();
         refusalsChangeNothing();
@@ -63,23 +67,43 @@ public final class RulesTest {
         Constructor<?>[] constructors = EchoFines.class.getDeclaredConstructors();
         check.due("constructors", constructors.length, 1);
         check.holds("the constructor is public", constructors[0].getModifiers() == Modifier.PUBLIC);
-        for (Class<?> inside : EchoFines.class.getDeclaredClasses()) {
-            check.holds(inside + " is static", Modifier.isStatic(inside.getModifiers()));
-            for (Field f : inside.getDeclaredFields()) {
-                boolean isStatic = Modifier.isStatic(f.getModifiers());
-                check.holds(f + " is final if it is static", !isStatic || Modifier.isFinal(f.getModifiers()));
-            }
-        }
-        privateNames(found);
     }
 
-    private static void privateNames(List<String> found) {
-        for (Method m : EchoFines.class.getDeclaredMethods()) {
-            if (!Modifier.isPrivate(m.getModifiers())) continue;
-            for (String one : found) {
-                check.holds(m + " has a name of its own", !one.startsWith(m.getName() + "("));
+    /** Rules 1, 3, 5 and 11: what classes, fields and methods there may be, and how many. */
+    private static void classesInside() {
+        List<Class<?>> classes = new ArrayList<>(List.of(EchoFines.class));
+        classes.addAll(List.of(EchoFines.class.getDeclaredClasses()));
+        check.holds("at most twelve classes", classes.size() <= 12);
+        for (Class<?> one : classes) {
+            boolean isInside = one != EchoFines.class;
+            check.holds(one + " is static", !isInside || Modifier.isStatic(one.getModifiers()));
+            check.holds(one + " has no classes inside", !isInside || one.getDeclaredClasses().length == 0);
+            fieldsOf(one);
+            for (Constructor<?> c : one.getDeclaredConstructors()) check.holds(c + " takes seven at most", c.getParameterCount() <= 7);
+            for (Method m : one.getDeclaredMethods()) {
+                check.holds(m + " takes seven at most", m.getParameterCount() <= 7);
+                boolean isFace = !isInside && Modifier.isPublic(m.getModifiers());
+                for (String name : FACE) {
+                    check.holds(m + " has a name of its own", isFace || !name.startsWith(m.getName() + "("));
+                }
             }
         }
+    }
+
+    private static void fieldsOf(Class<?> one) {
+        int own = 0;
+        for (Field f : one.getDeclaredFields()) {
+            String type = f.getType().getSimpleName();
+            if (Modifier.isStatic(f.getModifiers())) {
+                check.holds(f + " is final as it is static", Modifier.isFinal(f.getModifiers()));
+                check.holds(f + " is a constant", type.matches("int|long|boolean|char|String|(int|long|char|byte)\\[\\]"));
+            } else {
+                own++;
+                check.holds(f + " is a number, a row of numbers or an own object", f.getType().getEnclosingClass() == EchoFines.class
+                    || type.matches("(int|long|boolean)(\\[\\])?"));
+            }
+        }
+        check.holds(one + " has twenty fields at most", own <= 20);
     }
 
     private static void source() throws Exception {
@@ -95,8 +119,23 @@ public final class RulesTest {
         check.holds("nothing Exact", !code.contains("Exact("));
         check.holds("no package", !code.contains("package "));
         check.holds("signs 1 to 127", source.chars().allMatch(c -> c >= 1 && c <= 127));
+        Matcher library = Pattern.compile("\\b(Math|Integer|Long|Arrays|System|List|String|Character)\\.(\\w+)").matcher(code);
+        while (library.find()) check.holds(library.group() + " may be used", LIBRARY.contains(library.group()));
+        methodsAreShort(code);
         Matcher news = Pattern.compile("\n( +)(.*\\bnew \\w.*)").matcher(code);
         while (news.find()) check.holds("rows are made with the object: " + news.group(2), news.group(2).contains("final"));
+    }
+
+    /** A method of the class, or of one inside, ends with a bracket as far in as it begins. */
+    private static void methodsAreShort(String code) {
+        Matcher method = Pattern.compile("(?ms)^( {4}| {8})(?! |if |for |while |switch |private static final class )([^\n=;]*\\)) \\{\n(.*?)^\\1\\}")
+            .matcher(code);
+        int methods = 0;
+        while (method.find()) {
+            methods++;
+            check.holds(method.group(2) + " has sixty lines at most", method.group(3).lines().count() <= 60);
+        }
+        check.holds("methods were found: " + methods, methods >= FACE.length);
     }
 
     // ---- calls with any numbers: none may throw, none that is refused may change anything
